@@ -69,7 +69,7 @@ public final class TownSundays {
     private final Land century = new Land();
     private final Land[] images = new Land[IMAGE_ROOM];
     private final Tape tape = new Tape();
-    private final Reader reader = new Reader();
+    private final Reader reader = new Reader(tape);
     private final Judge judge = new Judge();
     private final Mover mover = new Mover(judge);
     private final Runner runner = new Runner(mover);
@@ -222,7 +222,7 @@ public final class TownSundays {
             tape.length = 0;
             return refused(NO_ROOM);
         }
-        boolean readable = reader.readText(tape, false);
+        boolean readable = reader.readText(false);
         tape.length = 0;
         if (!readable) {
             return refused(WRONG_TEXT);
@@ -234,7 +234,7 @@ public final class TownSundays {
     }
 
     public int orders() {
-        boolean readable = reader.readText(tape, true);
+        boolean readable = reader.readText(true);
         tape.length = 0;
         stoppedClause = NONE;
         if (!readable) {
@@ -756,6 +756,18 @@ public final class TownSundays {
             }
         }
 
+        void setPlace(int clause, int place, int since) {
+            from[clause * PLACES + place] = since;
+            to[clause * PLACES + place] = steps;
+        }
+
+        /** What stands behind "or", "and" is left out by going on here. */
+        void landJump(int jump) {
+            if (jump < with.length) {
+                with[jump] = steps;
+            }
+        }
+
         /** A copy without room to spare: LAWS are kept, the reader's TEXT is used again. */
         Text trimmed() {
             Text copy = new Text(steps, clauses);
@@ -777,24 +789,54 @@ public final class TownSundays {
         private static final int MOST_BRACKETS = 8;
         private static final int MOST_NUMBER = 1000;
         private static final int MOST_REPEATS = 20;
-        private static final int ENDED = 0;
-        private static final int LETTERS = 1;
-        private static final int DIGITS = 2;
-        private static final int SIGN = 3;
+
+        private static final String WORDS =
+            "town sunday bells hats own had miles year mood done latest home has likes alters bars swap round road pass with to times if or and not ";
+
+        // What a TOKEN is: a single byte is itself, a word is told by its place in WORDS, from here on.
+        private static final int FIRST_WORD = 256;
+        private static final int MOOD_WORD = FIRST_WORD + Judge.THAT_MOOD;
+        private static final int BELLS_WORD = FIRST_WORD + Judge.BELLS;
+        private static final int YEAR_WORD = FIRST_WORD + Judge.THAT_YEAR;
+        private static final int DONE_WORD = MOOD_WORD + 1;
+        private static final int LATEST_WORD = MOOD_WORD + 2;
+        private static final int HOME_WORD = MOOD_WORD + 3;
+        private static final int HAS_WORD = MOOD_WORD + 4;
+        private static final int LIKES_WORD = MOOD_WORD + 5;
+        private static final int ALTERS_WORD = MOOD_WORD + 6;
+        private static final int BARS_WORD = MOOD_WORD + 7;
+        private static final int SWAP_WORD = MOOD_WORD + 8;
+        private static final int ROUND_WORD = MOOD_WORD + 9;
+        private static final int ROAD_WORD = MOOD_WORD + 10;
+        private static final int PASS_WORD = MOOD_WORD + 11;
+        private static final int WITH_WORD = MOOD_WORD + 12;
+        private static final int TO_WORD = MOOD_WORD + 13;
+        private static final int TIMES_WORD = MOOD_WORD + 14;
+        private static final int IF_WORD = MOOD_WORD + 15;
+        private static final int OR_WORD = MOOD_WORD + 16;
+        private static final int AND_WORD = MOOD_WORD + 17;
+        private static final int NOT_WORD = MOOD_WORD + 18;
+        private static final int DIGITS = 1000;
+        private static final int ENDED = 1001;
+        /** No TOKEN is asked for by this: a word of neither language, or all behind the FAULT. */
+        private static final int STRANGE = 1002;
 
         final Text text = new Text(MOST_BYTES, MOST_CLAUSES);
         int fault = NONE;
-        private Tape tape = null;
+        private final Tape tape;
         private boolean ofOrders = false;
-        private int tokenKind = ENDED;
+        private int token = ENDED;
         private int tokenFrom = 0;
         private int tokenTo = 0;
         private int tokenNumber = 0;
         private int parts = 0;
 
-        /** Whether the TEXT can be; if it can, it stands in text then. */
-        boolean readText(Tape fed, boolean orders) {
-            tape = fed;
+        Reader(Tape tape) {
+            this.tape = tape;
+        }
+
+        /** Whether the TEXT on the TAPE can be; if it can, it stands in text then. */
+        boolean readText(boolean orders) {
             ofOrders = orders;
             fault = NONE;
             parts = 0;
@@ -802,10 +844,10 @@ public final class TownSundays {
             text.clear();
             nextToken();
             readClause();
-            for (int i = 0; i < MOST_BYTES && takeSign(';'); i++) {
+            for (int i = 0; i < MOST_BYTES && take(';'); i++) {
                 readClause();
             }
-            if (tokenKind != ENDED) {
+            if (token != ENDED) {
                 fail();
             }
             return fault == NONE;
@@ -817,74 +859,68 @@ public final class TownSundays {
                 i++;
             }
             tokenFrom = i;
-            if (i >= tape.length) {
-                tokenKind = ENDED;
-                tokenTo = i;
-                return;
-            }
-            tokenKind = kindOf(tape.bytes[i]);
             tokenNumber = 0;
-            while (i < tape.length && kindOf(tape.bytes[i]) == tokenKind && (i == tokenFrom || tokenKind != SIGN)) {
-                if (tokenKind == DIGITS) {
-                    // One above the most stands for all that are too high.
-                    tokenNumber = Math.min(tokenNumber * 10 + tape.bytes[i] - '0', MOST_NUMBER + 1);
-                }
+            while (i < tape.length && tape.bytes[i] >= '0' && tape.bytes[i] <= '9') {
+                // One above the most stands for all that are too high.
+                tokenNumber = Math.min(tokenNumber * 10 + tape.bytes[i] - '0', MOST_NUMBER + 1);
                 i++;
+            }
+            token = i > tokenFrom ? DIGITS : ENDED;
+            if (token == ENDED && i < tape.length) {
+                token = tape.bytes[i];
+                while (i < tape.length && tape.bytes[i] >= 'a' && tape.bytes[i] <= 'z') {
+                    i++;
+                }
+                if (i > tokenFrom) {
+                    token = wordUpTo(i);
+                } else {
+                    i++;
+                }
             }
             tokenTo = i;
         }
 
-        private static int kindOf(int sign) {
-            if (sign >= 'a' && sign <= 'z') {
-                return LETTERS;
+        private int wordUpTo(int to) {
+            int word = FIRST_WORD;
+            int i = tokenFrom;
+            boolean same = true;
+            for (int place = 0; place < WORDS.length(); place++) {
+                char sign = WORDS.charAt(place);
+                if (sign != ' ') {
+                    same = same && i < to && tape.bytes[i] == sign;
+                    i++;
+                } else if (same && i == to) {
+                    return word;
+                } else {
+                    word++;
+                    i = tokenFrom;
+                    same = true;
+                }
             }
-            return sign >= '0' && sign <= '9' ? DIGITS : SIGN;
+            return STRANGE;
         }
 
         private void fail() {
             if (fault == NONE) {
                 fault = tokenFrom;
+                token = STRANGE;
             }
         }
 
-        private boolean isWord(String word) {
-            if (fault != NONE || tokenKind != LETTERS || tokenTo - tokenFrom != word.length()) {
-                return false;
+        private boolean take(int asked) {
+            boolean is = token == asked;
+            if (is) {
+                nextToken();
             }
-            for (int i = 0; i < word.length(); i++) {
-                if (tape.bytes[tokenFrom + i] != word.charAt(i)) {
-                    return false;
-                }
-            }
-            return true;
-        }
-
-        private boolean isSign(char sign) {
-            return fault == NONE && tokenKind == SIGN && tape.bytes[tokenFrom] == sign;
+            return is;
         }
 
         private boolean isNumber(int least, int most) {
-            return fault == NONE && tokenKind == DIGITS && tokenNumber >= least && tokenNumber <= most;
-        }
-
-        private boolean takeWord(String word) {
-            boolean is = isWord(word);
-            if (is) {
-                nextToken();
-            }
-            return is;
-        }
-
-        private boolean takeSign(char sign) {
-            boolean is = isSign(sign);
-            if (is) {
-                nextToken();
-            }
-            return is;
+            return token == DIGITS && tokenNumber >= least && tokenNumber <= most;
         }
 
         private void readClause() {
-            if (fault != NONE || text.clauses >= MOST_CLAUSES) {
+            if (text.clauses >= MOST_CLAUSES) {
                 fail();
                 return;
             }
@@ -897,26 +933,21 @@ public final class TownSundays {
             } else {
                 readRule(clause);
             }
-            if (takeWord("if")) {
+            if (take(IF_WORD)) {
                 int from = text.steps;
                 readTest(0);
-                setPlace(clause, TEST, from);
+                text.setPlace(clause, TEST, from);
             }
         }
 
-        private void setPlace(int clause, int place, int from) {
-            text.from[clause * PLACES + place] = from;
-            text.to[clause * PLACES + place] = text.steps;
-        }
-
         private void readRule(int clause) {
-            if (takeWord("likes")) {
+            if (take(LIKES_WORD)) {
                 text.kind[clause] = LIKES;
-                readSumAt(clause, 0);
-            } else if (takeWord("alters")) {
+                readSums(clause, 1, STRANGE);
+            } else if (take(ALTERS_WORD)) {
                 text.kind[clause] = ALTERS;
-                readSumAt(clause, 0);
-            } else if (takeWord("bars")) {
+                readSums(clause, 1, STRANGE);
+            } else if (take(BARS_WORD)) {
                 text.kind[clause] = BARS;
             } else {
                 fail();
@@ -924,28 +955,35 @@ public final class TownSundays {
         }
 
         private void readOrder(int clause) {
-            if (takeWord("swap")) {
+            if (take(SWAP_WORD)) {
                 text.kind[clause] = SWAP;
-                readSumAt(clause, 0);
-                readBehind("with", clause, 1);
-            } else if (takeWord("round")) {
+                readSums(clause, 2, WITH_WORD);
+            } else if (take(ROUND_WORD)) {
                 text.kind[clause] = ROUND;
-                readSumAt(clause, 0);
-                readBehind("to", clause, 1);
-                readBehind("to", clause, 2);
-            } else if (takeWord("road")) {
+                readSums(clause, 3, TO_WORD);
+            } else if (take(ROAD_WORD)) {
                 text.kind[clause] = CLOSE;
-                readSumAt(clause, 0);
-                readBehind("to", clause, 1);
-            } else if (takeWord("pass")) {
+                readSums(clause, 2, TO_WORD);
+            } else if (take(PASS_WORD)) {
                 text.kind[clause] = PASS;
             } else {
                 fail();
             }
         }
 
+        private void readSums(int clause, int count, int between) {
+            for (int place = 0; place < count; place++) {
+                if (place > 0 && !take(between)) {
+                    fail();
+                }
+                int from = text.steps;
+                readSum(0);
+                text.setPlace(clause, place, from);
+            }
+        }
+
         private void readTimes(int clause) {
-            if (!takeWord("times")) {
+            if (!take(TIMES_WORD)) {
                 return;
             }
             if (isNumber(1, MOST_REPEATS)) {
@@ -956,86 +994,57 @@ public final class TownSundays {
             }
         }
 
-        private void readBehind(String word, int clause, int place) {
-            if (takeWord(word)) {
-                readSumAt(clause, place);
-            } else {
-                fail();
-            }
-        }
-
-        private void readSumAt(int clause, int place) {
-            int from = text.steps;
-            readSum(0);
-            setPlace(clause, place, from);
-        }
-
         private void readTest(int brackets) {
             readBoth(brackets);
-            for (int i = 0; i < MOST_BYTES && takeWord("or"); i++) {
+            for (int i = 0; i < MOST_BYTES && take(OR_WORD); i++) {
                 int jump = text.steps;
                 text.add(OR, 0);
                 readBoth(brackets);
-                landJump(jump);
+                text.landJump(jump);
             }
         }
 
         private void readBoth(int brackets) {
             readPlain(brackets);
-            for (int i = 0; i < MOST_BYTES && takeWord("and"); i++) {
+            for (int i = 0; i < MOST_BYTES && take(AND_WORD); i++) {
                 int jump = text.steps;
                 text.add(AND, 0);
                 readPlain(brackets);
-                landJump(jump);
-            }
-        }
-
-        /** What stands behind "or", "and" is left out by going on here. */
-        private void landJump(int jump) {
-            if (jump < text.with.length) {
-                text.with[jump] = text.steps;
+                text.landJump(jump);
             }
         }
 
         private void readPlain(int brackets) {
+            // Turned twice it is as it was, so a row of "not" needs no call for each.
             boolean turned = false;
-            for (int i = 0; i < MOST_BYTES && takeWord("not"); i++) {
+            for (int i = 0; i < MOST_BYTES && take(NOT_WORD); i++) {
                 turned = !turned;
             }
-            if (isSign('(')) {
-                if (brackets >= MOST_BRACKETS) {
-                    fail();
-                    return;
-                }
-                nextToken();
+            if (brackets < MOST_BRACKETS && take('(')) {
                 readTest(brackets + 1);
-                if (!takeSign(')')) {
+                if (!take(')')) {
                     fail();
                 }
             } else {
-                readComparison(brackets);
+                readSum(brackets);
+                int what = token == '<' ? LESS : token == '>' ? MORE : ALIKE;
+                if (token == '<' || token == '>' || token == '=') {
+                    nextToken();
+                } else {
+                    fail();
+                }
+                readSum(brackets);
+                text.add(what, 0);
             }
             if (turned) {
                 text.add(NOT, 0);
             }
         }
 
-        private void readComparison(int brackets) {
-            readSum(brackets);
-            int what = isSign('<') ? LESS : isSign('>') ? MORE : isSign('=') ? ALIKE : NONE;
-            if (what == NONE) {
-                fail();
-                return;
-            }
-            nextToken();
-            readSum(brackets);
-            text.add(what, 0);
-        }
-
         private void readSum(int brackets) {
             readTerm(brackets);
-            for (int i = 0; i < MOST_BYTES && (isSign('+') || isSign('-')); i++) {
-                int what = isSign('+') ? PLUS : MINUS;
+            for (int i = 0; i < MOST_BYTES && (token == '+' || token == '-'); i++) {
+                int what = token == '+' ? PLUS : MINUS;
                 nextToken();
                 readTerm(brackets);
                 text.add(what, 0);
@@ -1044,8 +1053,8 @@ public final class TownSundays {
 
         private void readTerm(int brackets) {
             readPart(brackets);
-            for (int i = 0; i < MOST_BYTES && (isSign('*') || isSign('/') || isSign('%')); i++) {
-                int what = isSign('*') ? TIMES : isSign('/') ? DIVIDED : LEFT;
+            for (int i = 0; i < MOST_BYTES && (token == '*' || token == '/' || token == '%'); i++) {
+                int what = token == '*' ? TIMES : token == '/' ? DIVIDED : LEFT;
                 nextToken();
                 readPart(brackets);
                 text.add(what, 0);
@@ -1053,70 +1062,43 @@ public final class TownSundays {
         }
 
         private void readPart(int brackets) {
-            if (isSign('[')) {
-                if (brackets >= MOST_BRACKETS) {
-                    fail();
-                    return;
-                }
+            if (token == '[' && brackets < MOST_BRACKETS) {
                 nextToken();
                 readSum(brackets + 1);
-                if (!takeSign(']')) {
+                if (token == ']') {
+                    nextToken();
+                } else {
                     fail();
                 }
-                return;
-            }
-            if (parts >= MOST_PARTS) {
-                fail();
                 return;
             }
             parts++;
-            if (isNumber(0, MOST_NUMBER)) {
-                text.add(NUMBER, tokenNumber);
+            boolean isNumber = isNumber(0, MOST_NUMBER);
+            int part = isNumber ? tokenNumber : ofOrders ? ordersWord() : lawWord();
+            if (!isNumber && ofOrders && part >= Runner.HAS && parts <= MOST_PARTS) {
                 nextToken();
-            } else if (ofOrders) {
-                readOrdersWord();
-            } else {
-                readLawWord();
+                part = isNumber(0, MOST_TOWNS - 1) ? part + tokenNumber : NONE;
             }
-        }
-
-        private void readLawWord() {
-            int word = isWord("town") ? Judge.TOWN
-                : isWord("sunday") ? Judge.SUNDAY
-                : isWord("bells") ? Judge.BELLS
-                : isWord("hats") ? Judge.HATS
-                : isWord("own") ? Judge.OWN
-                : isWord("had") ? Judge.HAD
-                : isWord("miles") ? Judge.MILES
-                : isWord("year") ? Judge.THAT_YEAR
-                : isWord("mood") ? Judge.THAT_MOOD
-                : NONE;
-            addWord(word);
-        }
-
-        private void readOrdersWord() {
-            boolean has = isWord("has");
-            if (has || isWord("bells")) {
-                nextToken();
-                int first = has ? Runner.HAS : Runner.BELLS;
-                addWord(isNumber(0, MOST_TOWNS - 1) ? first + tokenNumber : NONE);
-                return;
-            }
-            int word = isWord("year") ? Runner.THAT_YEAR
-                : isWord("done") ? Runner.DONE
-                : isWord("latest") ? Runner.LATEST
-                : isWord("home") ? Runner.HOME
-                : NONE;
-            addWord(word);
-        }
-
-        private void addWord(int word) {
-            if (word == NONE) {
+            if (part == NONE || parts > MOST_PARTS) {
                 fail();
                 return;
             }
-            text.add(WORD, word);
+            text.add(isNumber ? NUMBER : WORD, part);
             nextToken();
+        }
+
+        private int lawWord() {
+            return token >= FIRST_WORD && token <= MOOD_WORD ? token - FIRST_WORD : NONE;
+        }
+
+        private int ordersWord() {
+            return token == YEAR_WORD ? Runner.THAT_YEAR
+                : token == DONE_WORD ? Runner.DONE
+                : token == LATEST_WORD ? Runner.LATEST
+                : token == HOME_WORD ? Runner.HOME
+                : token == HAS_WORD ? Runner.HAS
+                : token == BELLS_WORD ? Runner.BELLS
+                : NONE;
         }
     }
 
