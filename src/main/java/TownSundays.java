@@ -69,10 +69,10 @@ public final class TownSundays {
     private final Land century = new Land();
     private final Land[] images = new Land[IMAGE_ROOM];
     private final Tape tape = new Tape();
-    private final Reader reader = new Reader(tape);
+    private final Reader reader = new Reader();
     private final Judge judge = new Judge();
-    private final Mover mover = new Mover(judge);
-    private final Runner runner = new Runner(mover);
+    private final Mover mover = new Mover();
+    private final Runner runner = new Runner();
     private final Past past = new Past();
     private final Past pastAhead = new Past();
     private final Paper paper = new Paper();
@@ -222,7 +222,7 @@ public final class TownSundays {
             tape.length = 0;
             return refused(NO_ROOM);
         }
-        boolean readable = reader.readText(false);
+        boolean readable = reader.readText(tape.bytes, tape.length, false);
         tape.length = 0;
         if (!readable) {
             return refused(WRONG_TEXT);
@@ -234,7 +234,7 @@ public final class TownSundays {
     }
 
     public int orders() {
-        boolean readable = reader.readText(true);
+        boolean readable = reader.readText(tape.bytes, tape.length, true);
         tape.length = 0;
         stoppedClause = NONE;
         if (!readable) {
@@ -823,7 +823,8 @@ public final class TownSundays {
 
         final Text text = new Text(MOST_BYTES, MOST_CLAUSES);
         int fault = NONE;
-        private final Tape tape;
+        private int[] bytes = new int[0];
+        private int length = 0;
         private boolean ofOrders = false;
         private int token = ENDED;
         private int tokenFrom = 0;
@@ -831,12 +832,10 @@ public final class TownSundays {
         private int tokenNumber = 0;
         private int parts = 0;
 
-        Reader(Tape tape) {
-            this.tape = tape;
-        }
-
-        /** Whether the TEXT on the TAPE can be; if it can, it stands in text then. */
-        boolean readText(boolean orders) {
+        /** Whether the TEXT can be; if it can, it stands in text then. */
+        boolean readText(int[] fed, int fedLength, boolean orders) {
+            bytes = fed;
+            length = Math.min(fedLength, fed.length);
             ofOrders = orders;
             fault = NONE;
             parts = 0;
@@ -855,20 +854,20 @@ public final class TownSundays {
 
         private void nextToken() {
             int i = tokenTo;
-            while (i < tape.length && tape.bytes[i] == ' ') {
+            while (i < length && bytes[i] == ' ') {
                 i++;
             }
             tokenFrom = i;
             tokenNumber = 0;
-            while (i < tape.length && tape.bytes[i] >= '0' && tape.bytes[i] <= '9') {
+            while (i < length && bytes[i] >= '0' && bytes[i] <= '9') {
                 // One above the most stands for all that are too high.
-                tokenNumber = Math.min(tokenNumber * 10 + tape.bytes[i] - '0', MOST_NUMBER + 1);
+                tokenNumber = Math.min(tokenNumber * 10 + bytes[i] - '0', MOST_NUMBER + 1);
                 i++;
             }
             token = i > tokenFrom ? DIGITS : ENDED;
-            if (token == ENDED && i < tape.length) {
-                token = tape.bytes[i];
-                while (i < tape.length && tape.bytes[i] >= 'a' && tape.bytes[i] <= 'z') {
+            if (token == ENDED && i < length) {
+                token = bytes[i];
+                while (i < length && bytes[i] >= 'a' && bytes[i] <= 'z') {
                     i++;
                 }
                 if (i > tokenFrom) {
@@ -887,7 +886,7 @@ public final class TownSundays {
             for (int place = 0; place < WORDS.length(); place++) {
                 char sign = WORDS.charAt(place);
                 if (sign != ' ') {
-                    same = same && i < to && tape.bytes[i] == sign;
+                    same = same && i < to && bytes[i] == sign;
                     i++;
                 } else if (same && i == to) {
                     return word;
@@ -1261,12 +1260,8 @@ public final class TownSundays {
 
     /** Does what swap(), round(), close(), pass() do to any land; tells what these answer. */
     private static final class Mover {
-        private final Judge judge;
+        private final Judge judge = new Judge();
         private final int[] bellsThen = new int[MOST_TOWNS];
-
-        Mover(Judge judge) {
-            this.judge = judge;
-        }
 
         int trySwap(Land land, int one, int other) {
             if (one == other) {
@@ -1378,13 +1373,9 @@ public final class TownSundays {
 
         int done = 0;
         private int latest = NONE;
-        private final Mover mover;
+        private final Mover mover = new Mover();
         private final int[] words = new int[BELLS + MOST_TOWNS];
         private final Reckoner reckoner = new Reckoner();
-
-        Runner(Mover mover) {
-            this.mover = mover;
-        }
 
         /** The CLAUSE that can't be, behind which nothing is run; NONE, if there is none. */
         int runAll(Text text, Land land, Past past) {

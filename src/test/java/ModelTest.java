@@ -29,6 +29,15 @@ public final class ModelTest {
                 for (String c : t.calls) System.out.println("  " + c);
             }
         }
+        for (long seed = first; seed < first + runs / 20 && bad < 3; seed++) {
+            ModelTest t = new ModelTest(seed);
+            t.homeOfMany();
+            if (t.wrong) {
+                bad++;
+                System.out.println("way home of seed " + seed + ":");
+                for (String c : t.calls) System.out.println("  " + c);
+            }
+        }
         System.out.println(bad == 0 ? runs + " drawn runs are answered alike" : "drawn runs differ");
         if (bad != 0) System.exit(1);
     }
@@ -53,6 +62,24 @@ public final class ModelTest {
         if (m.s.laws.size() > 0) force();
         int calls = lush ? 420 : 150;
         for (int i = 0; i < calls && left > 12 && !wrong; i++) one();
+    }
+
+    /** Ways home of six and seven TOWNS, which the other runs seldom ask for. */
+    private void homeOfMany() {
+        int towns = 6 + upTo(2);
+        for (int i = 0; i < towns; i++) { x.town(i, 0); m.town(i, 0); }
+        for (int a = 0; a < towns; a++) for (int b = 0; b < a; b++) {
+            if (upTo(10) < 6) { x.road(a, b, 1); m.road(a, b, 1); }
+        }
+        for (int i = 0; i < 30; i++) { int a = upTo(towns); int b = upTo(towns); due("swap(" + a + "," + b + ")", x.swap(a, b), m.swap(a, b)); }
+        if (rarely(2)) {
+            text(false);
+            force();
+        }
+        List<Integer> way = m.wayHome();
+        int length = way == null ? -1 : way.size();
+        due("home(-1)", x.home(-1), length);
+        for (int i = 0; i < length; i++) due("home(" + i + ")", x.home(i), way.get(i));
     }
 
     private void one() {

@@ -319,6 +319,14 @@ public final class PromiseTest {
         fault(false, "likes  ", 7);
         fault(false, "like 5", 0);
         fault(false, "likess 5", 0);
+        fault(false, "zlikes 5", 0);
+        fault(false, "likes 5 ifz 1 = 1", 8);
+        fault(false, "likes 5 ifa 1 = 1", 8);
+        fault(false, "likes 5 if`1 = 1", 10);
+        fault(false, "likes 5 if{1 = 1", 10);
+        fault(false, "likes 5/1", -1);
+        fault(false, "likes 5:1", 7);
+        fault(false, "likes 90", -1);
         fault(false, "Likes 5", 0);
         fault(false, "swap 0 with 1", 0);
         fault(false, "likes 5 6", 8);
@@ -560,6 +568,8 @@ public final class PromiseTest {
         refused(x, "18: round", x.round(0, 1, 2) - 2, 0);
         due("18: where", x.of(0, 0) * 100 + x.of(1, 0) * 10 + x.of(2, 0), 201);
         x.undo();
+        refused(x, "18: the lowest comes to the first", x.round(1, 2, 0), 0);
+        x.undo();
         Checks.rule(x, "bars if sunday = 1 and town = 0");
         due("18: not barred this way", x.round(0, 1, 2), 2);
         x.undo();
@@ -646,6 +656,11 @@ public final class PromiseTest {
         for (int i = 0; i < 16; i++) due("21: swapped back", x.undo(), 0);
         refused(x, "21: the seventeenth", x.undo(), -3);
         due("21: as ahead of them", x.of(0, 0), 0);
+        TownSundays y = Checks.towns(1, 2);
+        for (int i = 0; i < 18; i++) y.pass();
+        y.swap(0, 1);
+        for (int i = 0; i < 16; i++) due("21: a year", y.undo(), 3);
+        due("21: one that was refused costs none of them", y.count(14) * 10 + y.of(0, 8), 22);
         int[] kept = {x.count(6), 0, 0};
         x.swap(0, 1);
         x.heard(0, 1);
@@ -819,6 +834,15 @@ public final class PromiseTest {
         y.force(-1);
         y.close(0, 1);
         due("27: closed", y.home(-1), -1);
+        TownSundays v = Checks.towns(1, 2, 3);
+        v.road(0, 1, 5);
+        v.road(0, 2, 5);
+        v.swap(0, 1);
+        v.swap(0, 2);
+        v.swap(0, 1);
+        due("27: by the middle", v.home(0) * 10000 + v.home(1) * 100 + v.home(2), 10201);
+        Checks.rule(v, "bars if sunday = 0 and town = 1");
+        due("27: by the middle, barred one way", v.home(0) * 10000 + v.home(1) * 100 + v.home(2), 20102);
         TownSundays z = Checks.towns(1, 2, 3, 4, 5, 6, 7);
         for (int i = 0; i < 6; i++) z.road(i, i + 1, 1);
         for (int i = 0; i < 7; i++) for (int j = 0; j < 6 - i; j++) z.swap(j, j + 1);
@@ -932,6 +956,11 @@ public final class PromiseTest {
         due("34: all apart", x.ask(0), 3);
         due("34: one is left", x.ask(1), 1);
         due("34: what 2", x.ask(2), -1);
+        TownSundays y = Checks.towns(1, 5, 3, 4);
+        Checks.rule(y, "likes 1;likes town if sunday = 1");
+        due("34: the second", y.ask(0) * 10 + y.ask(1), 11);
+        Checks.rule(y, "likes 1;likes town if sunday < 2");
+        due("34: the lowest", y.ask(0) * 10 + y.ask(1), 1);
         due("34: what -1", x.ask(-1), -1);
         x.terms(2, 0);
         x.heard(2, 1);
@@ -1033,6 +1062,10 @@ public final class PromiseTest {
         int behind = x.drawn(0, 0) * 1000 + x.drawn(1, 0) * 100 + x.drawn(2, 0) * 10 + x.drawn(3, 0);
         x.centuries(4, 60);
         due("37: up to 999", x.drawn(0, 0) * 1000 + x.drawn(1, 0) * 100 + x.drawn(2, 0) * 10 + x.drawn(3, 0), behind);
+        TownSundays one = Checks.towns(1);
+        Checks.rule(one, "alters bells + 1");
+        due("37: one town", one.centuries(1, 4), 1);
+        due("38: of one town", one.drawn(0, 1), 5);
     }
 
     // Promises 39 and 40
@@ -1086,6 +1119,16 @@ public final class PromiseTest {
         x.image(0);
         x.back(0);
         due("39: kept anew", x.count(0), 3);
+        TownSundays y = new TownSundays();
+        y.image(0);
+        y.town(3, 4);
+        y.town(5, 6);
+        y.image(1);
+        y.back(0);
+        due("40: no towns", y.count(0), 0);
+        y.town(1, 2);
+        y.back(1);
+        due("40: bells and hats", y.sunday(0, 1) * 10 + y.sunday(0, 2), 34);
     }
 
     // Promise 41
