@@ -65,8 +65,11 @@ public final class TownSundays {
     private static final int BROKEN = Integer.MIN_VALUE;
 
     private final Land now = new Land();
+    // What ORDERS that can't be go back to, as they do in pastAhead.
     private final Land ahead = new Land();
+    // The paper of the latest CENTURIES; it has no TOWNS as long as there were none of these.
     private final Land century = new Land();
+    // null, as long as that one was not kept.
     private final Land[] images = new Land[IMAGE_ROOM];
     private final Tape tape = new Tape();
     private final Reader reader = new Reader();
