@@ -7,7 +7,7 @@ final class Lands {
     static final String[] RICH = {
         "town 3 1", "town 5 0", "town 1 9", "road 0 1 10", "road 1 2 5", "road 0 2 20", "terms 1 3", "terms 2 4", "image 0",
         "law likes bells * 3 + town * sunday + miles;alters bells + 1 if town < 2;bars if sunday = 2 and town = 1 and year > 0",
-        "law likes 9 - bells", "force 0", "heard 0 32", "row 0 1 10 0 0 1", "swap 0 1", "pass", "close 1 2", "image 1", "swap 0 2",
+        "law likes 9 - bells", "force 0", "heard 1 24", "row 0 1 10 0 0 1", "swap 0 1", "pass", "close 1 2", "image 1", "swap 0 2",
         "?orders pass;swap 0 with 0", "?law likes", "centuries 7 9", "tape swap 0 with 2;pass"};
 
     /** Seven TOWNS with ROADS of five MILES between all of them. */

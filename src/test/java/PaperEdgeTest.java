@@ -346,6 +346,38 @@ public final class PaperEdgeTest {
         far.none("home 21");
     }
 
+    @Says({"III", "HOME: the fewest SWAPS, one behind the other"})
+    static void homeOfAnyThree() {
+        for (int hub = 0; hub < 7; hub++) for (int a = 0; a < 7; a++) for (int b = 0; b < 7; b++) {
+            if (a == b || a == hub || b == hub) continue;
+            Run x = new Run("town 1 0", "town 1 0", "town 1 0", "town 1 0", "town 1 0", "town 1 0", "town 1 0",
+                "road " + a + " " + hub + " 1", "road " + b + " " + hub + " 1", "swap " + b + " " + hub, "swap " + a + " " + hub);
+            x.due("home -1", 2);
+            x.due("home 0", 7 * Math.min(a, hub) + Math.max(a, hub));
+            x.due("home 1", 7 * Math.min(b, hub) + Math.max(b, hub));
+            x.due("home 2", -1);
+        }
+    }
+
+    @Says({"III", "HOME: the fewest SWAPS, one behind the other, by ROADS that are not CLOSED, laws asked as all is now"})
+    static void homeIsAskedAnew() {
+        // What was found ahead of a LAW is no way behind it.
+        Run x = Lands.three().make("round 0 1 2", "law bars if own = 0");
+        x.tells("home -1", 2);
+        x.make("home -1", "force 0");
+        x.none("home -1", "home 0");
+        Run y = Lands.three().make("swap 1 2", "road 1 2 0", "law bars if sunday = 0 and town > 0", "home -1");
+        y.tells("home -1", 3);
+        y.make("force 0");
+        y.none("home -1");
+        y.make("home -1", "force -1");
+        y.tells("home -1", 3);
+        Run z = Lands.three().make("swap 0 1", "home -1", "swap 1 2", "home -1", "road 0 1 0", "home -1");
+        z.tells("home -1", 2);
+        z.make("town 1 1");
+        z.tells("home -1", 2);
+    }
+
     @Says({"III", "laws asked as all is now but where SUNDAYS are (miles: of the ROAD between the two), behind which all are home"})
     static void homeAsLawsAreAskedNow() {
         Run x = new Run("town 1 0", "town 2 0", "town 3 0", "road 0 1 5", "road 1 2 6", "road 0 2 7", "swap 0 2", "close 0 2",
@@ -600,7 +632,7 @@ public final class PaperEdgeTest {
         x.none("drawn " + towns + " 0", "drawn " + towns + " 1");
     }
 
-    private static final String TURNING = "alters [bells * 3 + town + year] % 10;bars if sunday = 2 and town = 0 and year % 2 = 0";
+    private static final String TURNING = "alters [bells * 3 + hats + town + year] % 10;bars if sunday = 2 and town = 0 and year % 2 = 0";
 
     @Says({"IV", "CENTURIES with a SEED, n 1 .. 60"})
     static void fromOneTo60Times() {
@@ -748,8 +780,13 @@ public final class PaperEdgeTest {
             Run y = Lands.rich().make("image " + k, "tape swap 0 with 2;pass", "back " + k);
             Run.alike(x, y, "fault");
             // What is changed behind it changes no IMAGE.
-            x.make(changes).make("back " + k);
+            x.make("forget", "heard 2 99").make(changes).make("back " + k);
             Run.alike(x, y, "fault");
         }
+        Run x = new Run("image 0", "town 3 4", "town 5 6", "image 1", "back 0", "town 7 8", "back 1");
+        x.tells("count 0", 2);
+        x.tells("sunday 0 1", 3);
+        x.tells("sunday 0 2", 4);
+        x.tells("sunday 1 2", 6);
     }
 }

@@ -383,7 +383,9 @@ public final class TermsEdgeTest {
         x.taken("law " + half + ";" + half, 1);
         x.make("tape " + half + ";" + half + "+1");
         x.due("law", -6);
-        x.taken("orders swap 0 with 1" + "+0".repeat(48), 1);
+        for (int i = 0; i < 12; i++) x.taken("orders swap 0 with 1" + "+0".repeat(48), 1);
+        x.taken("law likes 9;likes 8 if 1 = 2", 2);
+        x.tells("compare 2 0 1", 9);
     }
 
     @Says({"II", "50 PARTS that are NUMBERS and words (FAULT at the 51st)"})
@@ -682,8 +684,8 @@ public final class TermsEdgeTest {
 
     @Says({"II", "\"pass\") [\"times\" TIMES] [\"if\" TEST]."})
     static void clausesOfOrders() {
-        Lands.ordersFaults("^5", "^likes 5", "^bars", "^if 1 = 1", "^times 2", "swap^", "swap 0^", "swap 0 ^to 2", "swap 0 with^", "swap 0 with 2 ^with 2",
-            "round 0^", "round 0 ^with 1 to 2", "round 0 to 1^", "round 0 to 1 ^with 2", "round 0 to 1 to^", "round 0 to 1 to 2 ^to 0", "road 0^", "road 0 ^with 1",
+        Lands.ordersFaults("^5", "^likes 5", "^bars", "^if 1 = 1", "^times 2", "swap^", "swap 0^", "swap 0 ^2", "swap 0 ^to 2", "swap 0 with^", "swap 0 with 2 ^with 2",
+            "round 0^", "round 0 ^1 to 2", "round 0 to 1 ^2", "round 0 ^with 1 to 2", "round 0 to 1^", "round 0 to 1 ^with 2", "round 0 to 1 to^", "round 0 to 1 to 2 ^to 0", "road 0^", "road 0 ^1", "road 0 ^with 1",
             "road 0 to^", "road 0 to 1 ^to 2", "pass ^1", "pass ^pass", "pass ^swap 0 with 2", "pass if 1 = 1 ^times 2", "pass if 1 = 1 ^if 1 = 1",
             "pass times 2 ^times 2", "swap ^with 2", "round ^to 1 to 2", "road ^to 1", "swap 0 with 2 ^1", "^close 0 to 1");
         Lands.ordersRead("swap 0 with 2 times 2 if 1 = 1", 2);
