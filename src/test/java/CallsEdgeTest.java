@@ -580,6 +580,29 @@ public final class CallsEdgeTest {
         y.tells("of 0 8", 6);
     }
 
+    @Says({"Promise 21", "16 are kept"})
+    static void sixteenAreKeptHoweverManyWere() {
+        for (int years : new int[] {1, 15, 16, 17, 18, 33, 34, 35, 51, 240}) {
+            Run x = Lands.three();
+            // By "?" status() is not asked behind each: those were too many calls.
+            for (int i = 0; i < years; i++) x.make("?pass");
+            int kept = Math.min(years, 16);
+            x.due("count 6", kept);
+            for (int i = 1; i <= kept; i++) {
+                x.due("undo", 3);
+                x.due("count 14", years - i);
+                x.due("of 0 8", Math.min(99, years - i));
+            }
+            x.refused("undo", -3);
+            // What is undone makes room again.
+            x.make("swap 0 1", "close 0 2");
+            x.due("count 6", 2);
+            x.taken("undo", 2);
+            x.taken("undo", 0);
+            x.refused("undo", -3);
+        }
+    }
+
     @Says({"Promise 21", "(where SUNDAYS are, BELLS, HAD, which ROADS are CLOSED, YEAR are as they were): 0 .. 3."})
     static void undoneAsItWas() {
         String[] calls = {"swap 0 1", "round 0 1 2", "close 0 2", "pass"};

@@ -47,6 +47,7 @@ public final class PromiseTest {
 
     // Promise 1
     private static void newObject() {
+        due("the constants: NONE", TownSundays.NONE, -1);
         TownSundays x = new TownSundays();
         int[] counts = {0, 0, 0, 0, 0, 0, 0, 0, 0, 0, 0, 0, 0, -1, 0, 1, 0, -1};
         for (int i = 0; i < counts.length; i++) due("1: count(" + i + ")", x.count(i), counts[i]);

@@ -540,6 +540,21 @@ public final class TermsEdgeTest {
         for (int i = 0; i < words.length; i += 2) Lands.likes("likes " + words[i], Integer.parseInt(words[i + 1]));
     }
 
+    @Says({"II", "All are asked of a TOWN and a SUNDAY (bells, hats: of that;"})
+    static void bellsAndHatsOfTheSunday() {
+        Run x = Lands.three().make("swap 0 1", "law likes bells * 10 + hats;alters hats - 1;bars if hats = 9 and bells = 1", "force 0");
+        for (int t = 0; t < 3; t++) {
+            x.tells("of " + t + " 1", 31);
+            x.tells("of " + t + " 2", 50);
+            x.tells("of " + t + " 3", 19);
+        }
+        x.tells("sunday 0 3", 0);
+        x.tells("sunday 1 3", 0);
+        x.tells("sunday 2 3", 8);
+        x.tells("of 0 17", 0);
+        x.tells("of 2 15", 1);
+    }
+
     @Says({"II", "own: 1, if it is that TOWN's, 0 else"})
     static void ownOrNot() {
         Run x = Lands.ruled("likes 5 + own");
@@ -814,7 +829,7 @@ public final class TermsEdgeTest {
     @Says({"II", "One that can't be (a BROKEN SUM, as swap(), round(), close() for \"road\", pass() are REFUSED) ends it: all is as it was ahead of it."})
     static void whatCannotBeEndsIt() {
         for (String order : List.of("swap 1 / 0 with 2", "swap 0 with 1 / 0", "round 1 / 0 to 1 to 2", "round 0 to 1 % 0 to 2", "round 0 to 1 to 2 / 0", "road 1 / 0 to 1",
-            "road 0 to 1000 * 1000 * 1000 * 1000", "swap 0 with 0", "swap 0 with 3", "swap 0 - 1 with 2", "swap 1000 with 2", "swap 1 with 2", "round 0 to 1 to 1", "round 0 to 0 to 1",
+            "road 0 to 1000 * 1000 * 1000 * 1000", "swap 0 with 0", "swap 0 with 3", "swap 0 - 1 with 2", "swap 1000 with 2", "swap 1000 * 1000 * 1000 with 0 - 1000 * 1000 * 1000", "swap 1 with 2", "round 0 to 1 to 1", "round 0 to 0 to 1",
             "round 2 to 1 to 2", "round 0 to 1 to 3", "round 0 to 1 to 2", "road 0 to 0", "road 0 to 3", "road 0 - 1 to 1", "pass if year = 2;swap 1 with 2 times 3")) {
             Lands.rich().refusedOrders("pass;swap 0 with 2;road 0 to 1;" + order, order.startsWith("pass") ? 4 : 3);
             if (!order.startsWith("pass")) Lands.rich().refusedOrders(order + ";pass", 0);
