@@ -16,14 +16,7 @@ import java.util.regex.Pattern;
 public final class RulesTest {
     private static final Checks C = new Checks();
 
-    private static final String[] FACE = {
-        "int town(int,int)", "int of(int,int)", "int sunday(int,int)", "int road(int,int,int)", "int between(int,int,int)",
-        "int terms(int,int)", "int feed(int,int,int,int,int)", "int end(int)", "int row()", "int sidings()", "int law()", "int orders()",
-        "int fault()", "int stopped()", "int force(int)", "int swap(int,int)", "int round(int,int,int)", "int close(int,int)", "int pass()",
-        "int undo()", "int rings(int)", "int repeated()", "int mostLiked(int)", "int anew(int)", "int newOnes()", "int home(int)",
-        "int market(int)", "int bargains(int)", "int envy(int)", "int heard(int,int)", "int forget()", "int canBe()", "int ask(int)",
-        "long few(int,int)", "int compare(int,int,int)", "int centuries(int,int)", "int drawn(int,int)", "int image(int)", "int back(int)",
-        "int count(int)", "int status()"};
+    private static final Pattern METHOD = Pattern.compile("public (\\w+ \\w+)\\(([^)]*)\\);");
 
     public static void main(String[] args) throws Exception {
         face();
@@ -34,13 +27,24 @@ public final class RulesTest {
         C.finish();
     }
 
+    /** The methods that the document tells under "The public face". */
+    private static Set<String> documentsFace() throws Exception {
+        String document = Files.readString(Path.of("../shared/DOC.md"), StandardCharsets.UTF_8);
+        String face = document.substring(document.indexOf("## The public face"), document.indexOf("## Terms"));
+        Set<String> methods = new TreeSet<>();
+        Matcher m = METHOD.matcher(face);
+        while (m.find()) methods.add(m.group(1) + "(" + m.group(2).replaceAll("(\\w+) \\w+", "$1").replace(", ", ",") + ")");
+        C.ok("the document's face has methods and NONE", methods.size() > 30 && face.contains("public static final int NONE = -1;"));
+        return methods;
+    }
+
     private static String told(Method m) {
         StringBuilder b = new StringBuilder(m.getReturnType().getName()).append(' ').append(m.getName()).append('(');
         for (int i = 0; i < m.getParameterCount(); i++) b.append(i == 0 ? "" : ",").append(m.getParameterTypes()[i].getName());
         return b.append(')').toString();
     }
 
-    private static void face() {
+    private static void face() throws Exception {
         Set<String> open = new TreeSet<>();
         Set<String> names = new TreeSet<>();
         for (Method m : TownSundays.class.getDeclaredMethods()) {
@@ -49,7 +53,8 @@ public final class RulesTest {
             open.add(told(m));
             names.add(m.getName());
         }
-        C.ok("rule 1: the face is " + open, open.equals(new TreeSet<>(List.of(FACE))));
+        C.ok("rule 1: the face is " + open, open.equals(documentsFace()));
+        C.due("NONE", TownSundays.NONE, -1);
         C.ok("rule 1: public and final", Modifier.isPublic(TownSundays.class.getModifiers()) && Modifier.isFinal(TownSundays.class.getModifiers()));
         Constructor<?>[] makers = TownSundays.class.getDeclaredConstructors();
         C.ok("rule 1: the constructor", makers.length == 1 && Modifier.isPublic(makers[0].getModifiers()) && makers[0].getParameterCount() == 0);
