@@ -62,7 +62,7 @@ public final class TownSundays {
     private static final int MOST_CLAUSES = 12;
 
     /** What a BROKEN SUM or TEST tells: no SUM that is not BROKEN can be so low. */
-    private static final int BROKEN = Integer.MIN_VALUE;
+    private static final int BROKEN = -2147483648;
 
     private final Land now = new Land();
     // What ORDERS that can't be go back to, as they do in pastAhead.
@@ -1678,7 +1678,7 @@ public final class TownSundays {
             for (int town = 0; town < land.towns; town++) {
                 boolean fits = true;
                 for (int i = 0; i < land.heardCount && i < MOST_HEARD; i++) {
-                    fits &= likings[town * MOST_TOWNS + land.heardOf[i]] == land.heardBy[i];
+                    fits = fits && likings[town * MOST_TOWNS + land.heardOf[i]] == land.heardBy[i];
                 }
                 if (fits) {
                     possible |= 1 << town;
